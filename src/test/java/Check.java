@@ -1,16 +1,24 @@
+import java.util.Arrays;
+
 /** What the tests share: comparing answers, and pushing whole terms. */
 final class Check {
     private static int calls = 0;
     private static int wrong = 0;
+    private static String sentence = "";
 
     private Check() {
+    }
+
+    /** The sentence of the document that the next answers are about; a wrong one is told with it. */
+    static void sentence(String words) {
+        sentence = "\"" + words + "\": ";
     }
 
     static void due(String what, long got, long want) {
         calls++;
         if (got != want) {
             wrong++;
-            System.out.println(what + " answered " + got + ", due is " + want);
+            System.out.println(sentence + what + " answered " + got + ", due is " + want);
         }
     }
 
@@ -28,7 +36,14 @@ final class Check {
 
     static int[] times(int count, int symbol) {
         int[] symbols = new int[count];
-        java.util.Arrays.fill(symbols, symbol);
+        Arrays.fill(symbols, symbol);
+        return symbols;
+    }
+
+    /** A term of this size, as for push: the last symbol stands inside symbols with one part. */
+    static int[] chain(int size, int outer, int last) {
+        int[] symbols = times(size, outer);
+        symbols[0] = last;
         return symbols;
     }
 

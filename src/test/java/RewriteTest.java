@@ -1,6 +1,5 @@
-/** Promises 11 to 14: fits, redexes, step, run. */
+/** The ordinary cases of promises 11 to 14: fits, redexes, step, run. */
 public final class RewriteTest {
-    private static final int FULL = BottomUpRewriter.FULL;
     private static final int NONE = BottomUpRewriter.NONE;
 
     public static void main(String[] args) {
@@ -14,12 +13,9 @@ public final class RewriteTest {
         failedFitLeavesNoTrace();
         doublingAndDropping();
         restOfTheSubjectStays();
-        sizeLimit();
-        fullThoughAnotherPlaceHasRoom();
         stepToTheSameTerm();
         stackAndRulesStay();
-        runCounts();
-        runStops();
+        runDoesStepAfterStep();
         Check.finish("RewriteTest");
     }
 
@@ -154,58 +150,6 @@ public final class RewriteTest {
         Check.dueSubject("shrunk in the middle", y, 6, 5, 4, 1, 2, 5, 1, 2);
     }
 
-    private static void sizeLimit() {
-        BottomUpRewriter x = new BottomUpRewriter();
-        Check.makeRule(x, Check.term(1), 1, 3);
-        Check.push(x, 1);
-        Check.push(x, Check.times(29, 4));
-        Check.due("subject()", x.subject(), 30);
-        Check.due("to 31 places", x.step(), 29);
-        Check.due("size()", x.size(), 31);
-        int digest = x.digest();
-        Check.due("to 32 places", x.step(), FULL);
-        Check.due("size() as it was", x.size(), 31);
-        Check.due("digest() as it was", x.digest(), digest);
-        Check.due("symbol(29)", x.symbol(29), 3);
-        Check.due("symbol(30)", x.symbol(30), 1);
-        Check.due("to 32 places again", x.step(), FULL);
-        Check.due("run() refused at once", x.run(3), 0);
-        farBeyondTheLimit();
-    }
-
-    private static void farBeyondTheLimit() {
-        BottomUpRewriter x = new BottomUpRewriter();
-        Check.makeRule(x, Check.term(7, 3), 7, 7, 5, 7, 5, 7, 5, 7, 5, 7, 5, 7, 5, 7, 5, 7, 5, 7, 5, 7, 5, 7, 5, 7, 5, 7, 5);
-        Check.push(x, 2);
-        Check.push(x, Check.times(30, 3));
-        x.subject();
-        Check.due("far beyond 31 places", x.step(), FULL);
-        Check.due("size() as it was", x.size(), 31);
-        Check.due("digest() as it was", x.digest(), 4 * 30 * 31 / 2 + 31 * 3);
-    }
-
-    private static void fullThoughAnotherPlaceHasRoom() {
-        BottomUpRewriter x = new BottomUpRewriter();
-        Check.makeRule(x, Check.term(7, 4), 7, 7, 5);
-        Check.makeRule(x, Check.term(7, 3), 7);
-        Check.push(x, 0);
-        Check.push(x, Check.times(20, 3));
-        Check.push(x, 4);
-        Check.due("subject()", x.subject(), 22);
-        Check.due("redexes()", x.redexes(), 21);
-        Check.due("only the next place counts", x.step(), FULL);
-        Check.due("size() as it was", x.size(), 22);
-        // Rule 1 would fit at the same place and leave room, but rule 0 is taken.
-        BottomUpRewriter y = new BottomUpRewriter();
-        Check.makeRule(y, Check.term(7, 4), 7, 7, 5);
-        Check.makeRule(y, Check.term(7, 4), 7);
-        Check.push(y, 0);
-        Check.push(y, Check.times(30, 4));
-        y.subject();
-        Check.due("only the least rule counts", y.step(), FULL);
-        Check.due("size() as it was", y.size(), 31);
-    }
-
     private static void stepToTheSameTerm() {
         BottomUpRewriter x = new BottomUpRewriter();
         Check.makeRule(x, Check.term(0), 0);
@@ -226,38 +170,14 @@ public final class RewriteTest {
         Check.dueSubject("the term on the stack", x, 5, 1, 2);
     }
 
-    private static BottomUpRewriter endless() {
+    private static void runDoesStepAfterStep() {
         BottomUpRewriter x = new BottomUpRewriter();
         Check.makeRule(x, Check.term(0), 1);
-        Check.makeRule(x, Check.term(1), 2);
-        Check.makeRule(x, Check.term(2), 0);
-        return x;
-    }
-
-    private static void runCounts() {
-        int[] asked = {Integer.MIN_VALUE, -5, -1, 0, 1, 2, 3, 39, 40, 41, 42, 1000, Integer.MAX_VALUE};
-        for (int n : asked) {
-            BottomUpRewriter x = endless();
-            int want = Math.max(0, Math.min(40, n));
-            Check.due("run(" + n + ")", x.run(n), want);
-            Check.dueSubject("after run(" + n + ")", x, want % 3);
-        }
-    }
-
-    private static void runStops() {
-        BottomUpRewriter x = new BottomUpRewriter();
-        Check.due("run() without rules", x.run(5), 0);
         Check.makeRule(x, Check.term(7, 3), 7);
-        Check.makeSubject(x, 1, 3, 3, 3);
-        Check.due("run(2) of three", x.run(2), 2);
-        Check.dueSubject("after two", x, 3, 1);
-        Check.due("run(40) of one", x.run(40), 1);
-        Check.dueSubject("after three", x, 1);
-        Check.due("run(40) of none", x.run(40), 0);
-        BottomUpRewriter y = new BottomUpRewriter();
-        Check.makeRule(y, Check.term(0), 0, 4);
-        Check.due("run() until full", y.run(40), 30);
-        Check.due("size() then", y.size(), 31);
-        Check.due("run() when full", y.run(1), 0);
+        Check.makeSubject(x, 0, 4, 0, 3, 5, 3);
+        Check.due("run(3)", x.run(3), 3);
+        Check.dueSubject("after three", x, 5, 4, 1, 0);
+        Check.due("run(3) of the one left", x.run(3), 1);
+        Check.dueSubject("after four", x, 5, 4, 1, 1);
     }
 }

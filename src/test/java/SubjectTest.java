@@ -1,15 +1,8 @@
-/** Promises 8 to 10 and 15 to 17: subject, size, symbol, sizeAt, same, digest. */
+/** The ordinary cases of promises 8 to 10 and 15 to 17: subject, size, symbol, sizeAt, same, digest. */
 public final class SubjectTest {
-    private static final int BAD_STACK = BottomUpRewriter.BAD_STACK;
-    private static final int NONE = BottomUpRewriter.NONE;
-    private static final int[] NO_PLACES = {-1, -2, -31, 31, 32, 1000, Integer.MIN_VALUE, Integer.MAX_VALUE};
-
     public static void main(String[] args) {
         taking();
-        refusedSubjects();
-        smallerSubjectAfterLarger();
         places();
-        noPlaces();
         partSizes();
         sameParts();
         differentParts();
@@ -31,41 +24,6 @@ public final class SubjectTest {
         Check.dueSubject("building leaves the subject", x, 1);
     }
 
-    private static void refusedSubjects() {
-        BottomUpRewriter x = new BottomUpRewriter();
-        Check.makeSubject(x, 1, 3);
-        Check.due("subject() from no term", x.subject(), BAD_STACK);
-        for (int v = 7; v <= 9; v++) {
-            Check.push(x, v);
-            Check.due("subject() of " + v, x.subject(), BAD_STACK);
-            Check.push(x, 3, 0, 5);
-            Check.due("subject() with " + v + " in the first part", x.subject(), BAD_STACK);
-            x.discard();
-            Check.push(x, 0, v, 6);
-            Check.due("subject() with " + v + " last", x.subject(), BAD_STACK);
-            Check.due("depth() then", x.depth(), 1);
-            x.discard();
-        }
-        Check.dueSubject("after refusals", x, 3, 1);
-        Check.push(x, 7, 2);
-        Check.due("only the top must be ground", x.subject(), 1);
-        Check.due("depth() then", x.depth(), 1);
-        Check.dueSubject("the ground top", x, 2);
-    }
-
-    private static void smallerSubjectAfterLarger() {
-        BottomUpRewriter x = new BottomUpRewriter();
-        Check.push(x, 0);
-        Check.push(x, Check.times(30, 3));
-        Check.due("the largest", x.subject(), 31);
-        Check.due("its last place", x.symbol(30), 0);
-        Check.due("behind it", x.symbol(31), NONE);
-        Check.makeSubject(x, 2);
-        Check.dueSubject("the smallest", x, 2);
-        Check.due("sizeAt(1)", x.sizeAt(1), NONE);
-        Check.due("same(1, 1)", x.same(1, 1), false);
-    }
-
     private static BottomUpRewriter sample() {
         BottomUpRewriter x = new BottomUpRewriter();
         // Places: 0:5 1:3 2:6 3:0 4:1 5:4 6:6 7:0 8:1
@@ -75,22 +33,6 @@ public final class SubjectTest {
 
     private static void places() {
         Check.dueSubject("the sample", sample(), 5, 3, 6, 0, 1, 4, 6, 0, 1);
-    }
-
-    private static void noPlaces() {
-        BottomUpRewriter x = sample();
-        for (int i : NO_PLACES) {
-            Check.due("symbol(" + i + ")", x.symbol(i), NONE);
-            Check.due("sizeAt(" + i + ")", x.sizeAt(i), NONE);
-            Check.due("fits(" + i + ")", x.fits(i), NONE);
-            Check.due("same(0, " + i + ")", x.same(0, i), false);
-            Check.due("same(" + i + ", 0)", x.same(i, 0), false);
-            Check.due("same(" + i + ", " + i + ")", x.same(i, i), false);
-        }
-        Check.due("symbol(9)", x.symbol(9), NONE);
-        Check.due("sizeAt(9)", x.sizeAt(9), NONE);
-        Check.due("same(9, 9)", x.same(9, 9), false);
-        Check.due("same(9, 10)", x.same(9, 10), false);
     }
 
     private static void partSizes() {
@@ -138,9 +80,5 @@ public final class SubjectTest {
         Check.makeSubject(x, 0, 1, 6);
         Check.due("digest() of 6 0 1", x.digest(), 7 + 2 * 1 + 3 * 2);
         Check.due("digest() of the sample", sample().digest(), 6 + 8 + 21 + 4 + 10 + 30 + 49 + 8 + 18);
-        Check.push(x, 0);
-        Check.push(x, Check.times(30, 4));
-        x.subject();
-        Check.due("digest() of 31 places", x.digest(), 5 * 30 * 31 / 2 + 31);
     }
 }
