@@ -33,6 +33,9 @@ public final class FaceTest {
     public static void main(String[] args) {
         Class<?> c = BottomUpRewriter.class;
         Check.due("public and final", c.getModifiers(), Modifier.PUBLIC | Modifier.FINAL);
+        Check.due("extends no other class", c.getSuperclass() == Object.class, true);
+        Check.due("interfaces", c.getInterfaces().length, 0);
+        Check.due("classes inside", c.getDeclaredClasses().length, 0);
         Set<String> seen = new TreeSet<>();
         for (Field f : c.getDeclaredFields()) {
             addIfSeen(seen, f.getModifiers(), f.toString());

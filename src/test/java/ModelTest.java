@@ -3,58 +3,57 @@ public final class ModelTest {
     private static final int RUNS = 3000;
     private static final int CALLS = 480;
 
-    private static long seed;
+    private final int run;
+    private final Picker picker;
+    private final BottomUpRewriter x = new BottomUpRewriter();
+    private final Model m = new Model();
+
+    private ModelTest(int run) {
+        this.run = run;
+        this.picker = new Picker(run);
+    }
 
     public static void main(String[] args) {
         for (int run = 0; run < RUNS; run++) {
-            seed = run;
-            compareRun(run);
+            new ModelTest(run).compareRun();
         }
         Check.finish("ModelTest");
     }
 
-    /** A number from 0 to n - 1; the same ones in every run of the test. */
-    private static int pick(int n) {
-        seed = seed * 6364136223846793005L + 1442695040888963407L;
-        return (int) ((seed >>> 33) % n);
-    }
-
-    private static int pickPlace() {
-        return pick(20) == 0 ? pick(80) - 40 : pick(12);
+    private int pickPlace() {
+        return picker.pick(20) == 0 ? picker.pick(80) - 40 : picker.pick(12);
     }
 
     /** Some runs favour constants, some large terms, so that both limits of the stack are met. */
-    private static int pickSymbol(int run) {
-        int kind = pick(40);
+    private int pickSymbol() {
+        int kind = picker.pick(40);
         if (kind == 0) {
-            return pick(14) - 2;
+            return picker.pick(14) - 2;
         }
         if (run % 3 == 0 && kind < 20) {
-            return 3 + pick(2);
+            return 3 + picker.pick(2);
         }
         if (run % 3 == 1 && kind < 10) {
-            return pick(3);
+            return picker.pick(3);
         }
-        return pick(10);
+        return picker.pick(10);
     }
 
-    private static void compareRun(int run) {
-        BottomUpRewriter x = new BottomUpRewriter();
-        Model m = new Model();
+    private void compareRun() {
         for (int call = 0; call < CALLS; call++) {
-            compareCall(run, x, m);
+            compareCall();
         }
         for (int i = 0; i < 31; i++) {
             Check.due("run " + run + ": symbol(" + i + ") at the end", x.symbol(i), m.symbol(i));
         }
     }
 
-    private static void compareCall(int run, BottomUpRewriter x, Model m) {
+    private void compareCall() {
         String at = "run " + run + ": ";
         int i = pickPlace();
         int j = pickPlace();
-        int s = pickSymbol(run);
-        int call = pick(64);
+        int s = pickSymbol();
+        int call = picker.pick(64);
         switch (call) {
             case 0, 1, 2, 3, 4 -> Check.due(at + "rule()", x.rule(), m.rule());
             case 5 -> Check.due(at + "unrule()", x.unrule(), m.unrule());
@@ -71,7 +70,7 @@ public final class ModelTest {
             case 27 -> Check.due(at + "rules()", x.rules(), m.rules());
             case 28 -> Check.due(at + "depth()", x.depth(), m.depth());
             case 29 -> {
-                if (pick(4) == 0) {
+                if (picker.pick(4) == 0) {
                     x.discard();
                     m.discard();
                 }
